@@ -31,7 +31,7 @@ public final class SwivelBoard {
     private final Parser parser;
     private final Survey survey;
     private final Sights sights;
-    private final Future future;
+    private final Course course;
 
     public SwivelBoard() {
         tape = new byte[MOST_BYTES];
@@ -51,7 +51,7 @@ public final class SwivelBoard {
         Turns turns = new Turns(live);
         survey = new Survey(live, turns);
         sights = new Sights(live, turns);
-        future = new Future(live);
+        course = new Course(live);
     }
 
     // ---- the board
@@ -333,30 +333,30 @@ public final class SwivelBoard {
         if (what != 0 && what != 1) {
             throw new IllegalArgumentException("no such question of settling");
         }
-        future.settle();
-        return what == 0 ? future.tail : future.round;
+        course.settle();
+        return what == 0 ? course.tail : course.round;
     }
 
     public int chairIn(int n) throws IllegalArgumentException {
         needMinutes(n, FAR_MINUTES);
-        return live.chairOf(future.lookIn(n));
+        return live.chairOf(course.lookIn(n));
     }
 
     public int aimIn(int m, int n) throws NoSuchElementException, IllegalArgumentException {
         needMember(m);
         needMinutes(n, FAR_MINUTES);
-        return Lanes.at(future.lookIn(n), m);
+        return Lanes.at(course.lookIn(n), m);
     }
 
     public int reign(int m, int n) throws NoSuchElementException, IllegalArgumentException {
         needMember(m);
         needMinutes(n, REIGN_MINUTES);
-        return future.reignOf(m, n);
+        return course.reignOf(m, n);
     }
 
     public int first(int m) throws NoSuchElementException {
         needMember(m);
-        return future.firstOf(m);
+        return course.firstOf(m);
     }
 
     // ---- seen
@@ -449,7 +449,7 @@ public final class SwivelBoard {
     public int copy(int tray, int n) throws NoSuchElementException, IllegalStateException, IllegalArgumentException {
         Tray row = needTray(tray);
         needMinutes(n, FAR_MINUTES);
-        int look = future.lookIn(n);
+        int look = course.lookIn(n);
         int many = Math.min(row.size, live.members);
         for (int i = 0; i < many; i++) {
             row.put(i, Lanes.at(look, i));
@@ -669,18 +669,18 @@ public final class SwivelBoard {
                             push(sign);
                         } else {
                             int right = pop();
-                            push(join(sign, pop(), right));
+                            push(bounded(join(sign, pop(), right)));
                         }
                 }
             }
             return pop();
         }
 
-        private static int join(int sign, int left, int right) {
+        private static long join(int sign, int left, int right) {
             switch (sign) {
-                case ADD: return bounded((long) left + right);
-                case TAKE: return bounded((long) left - right);
-                case TIMES: return bounded((long) left * right);
+                case ADD: return left + right;
+                case TAKE: return left - right;
+                case TIMES: return (long) left * right;
                 case LIKE: return left == right ? 1 : 0;
                 case BELOW: return left < right ? 1 : 0;
                 case ABOVE: return left > right ? 1 : 0;
@@ -690,7 +690,10 @@ public final class SwivelBoard {
         }
 
         private static int bounded(long v) {
-            return (int) Math.max(-BOUND, Math.min(BOUND, v));
+            if (v > BOUND) {
+                return BOUND;
+            }
+            return v < -BOUND ? -BOUND : (int) v;
         }
 
         private void push(int v) {
@@ -710,7 +713,7 @@ public final class SwivelBoard {
     }
 
     /** Cuts the text into tokens, one at a time. */
-    private static final class Scanner {
+    private static final class Tokens {
         static final int END = 0;
         static final int WORD = 1;
         static final int NUMBER = 2;
@@ -725,7 +728,7 @@ public final class SwivelBoard {
         int start;
         int value;
 
-        Scanner(byte[] text) {
+        Tokens(byte[] text) {
             this.text = text;
         }
 
@@ -736,23 +739,29 @@ public final class SwivelBoard {
         }
 
         void step() {
-            int at = next;
-            while (at < length && isBlank(signAt(at))) {
-                at++;
+            while (next < length && isBlank(signAt(next))) {
+                next++;
             }
-            start = at;
-            next = at;
-            value = signAt(at);
-            if (at >= length) {
+            start = next;
+            value = signAt(next);
+            if (next >= length) {
                 kind = END;
             } else if (isLetter(value)) {
                 kind = WORD;
-                passLetters();
+                while (next < length && isLetter(signAt(next))) {
+                    next++;
+                }
             } else if (isDigit(value)) {
-                passDigits();
+                value = 0;
+                while (next < length && isDigit(signAt(next))) {
+                    // A fourth digit makes it no number, and many more must not run over.
+                    value = Math.min(value * 10 + signAt(next) - '0', 1000);
+                    next++;
+                }
+                kind = next - start <= MOST_DIGITS ? NUMBER : BAD;
             } else {
                 kind = isSign(value) ? SIGN : BAD;
-                next = at + 1;
+                next++;
             }
         }
 
@@ -770,24 +779,6 @@ public final class SwivelBoard {
 
         boolean isSignOf(char c) {
             return kind == SIGN && value == c;
-        }
-
-        private void passLetters() {
-            while (next < length && isLetter(signAt(next))) {
-                next++;
-            }
-        }
-
-        private void passDigits() {
-            value = 0;
-            while (next < length && isDigit(signAt(next))) {
-                // Further digits make no number, and must not run over.
-                if (next - start < MOST_DIGITS) {
-                    value = value * 10 + signAt(next) - '0';
-                }
-                next++;
-            }
-            kind = next - start <= MOST_DIGITS ? NUMBER : BAD;
         }
 
         private int signAt(int at) {
@@ -844,7 +835,8 @@ public final class SwivelBoard {
         private int side;
         private int within;
         private int brackets;
-        private boolean wanted;
+        /** Whether an operand is to come, not what links two. */
+        boolean wanted;
         private boolean unitStart;
 
         void begin(int which) {
@@ -867,14 +859,10 @@ public final class SwivelBoard {
             return Arrays.copyOf(code, length);
         }
 
-        /** 0, or the kind of the token's fault. */
-        int take(Scanner token) {
-            return wanted ? takeOperand(token) : takeLink(token);
-        }
-
-        private int takeOperand(Scanner token) {
+        /** As takeLink: 0, or the kind of the token's fault. */
+        int takeOperand(Tokens token) {
             int name = nameOf(token);
-            if (token.kind == Scanner.NUMBER || name != 0) {
+            if (token.kind == Tokens.NUMBER || name != 0) {
                 emit(name != 0 ? name : token.value);
                 wanted = false;
                 return 0;
@@ -904,7 +892,7 @@ public final class SwivelBoard {
             return 0;
         }
 
-        private int takeLink(Scanner token) {
+        int takeLink(Tokens token) {
             boolean unitWhole = side == RIGHT || side == CLOSED;
             if (unitWhole && (token.isWord("and") || token.isWord("or"))) {
                 link(token.isWord("and") ? Reckoner.AND : Reckoner.OR);
@@ -916,7 +904,7 @@ public final class SwivelBoard {
                 close();
                 return 0;
             }
-            int sign = token.kind == Scanner.SIGN ? linkOf(token.value) : 0;
+            int sign = token.kind == Tokens.SIGN ? linkOf(token.value) : 0;
             if (sign == 0) {
                 return 2;
             }
@@ -957,7 +945,7 @@ public final class SwivelBoard {
             }
         }
 
-        private int nameOf(Scanner token) {
+        private int nameOf(Tokens token) {
             if (token.isWord("who")) {
                 return Reckoner.WHO;
             }
@@ -1019,7 +1007,7 @@ public final class SwivelBoard {
 
     /** Reads a board's text up to its end or its first fault. */
     private static final class Parser {
-        private final Scanner scanner;
+        private final Tokens tokens;
         private final LawWriter writer;
         int fault;
         int place;
@@ -1034,7 +1022,7 @@ public final class SwivelBoard {
         private final int[] unwritten;
 
         Parser(byte[] text) {
-            scanner = new Scanner(text);
+            tokens = new Tokens(text);
             writer = new LawWriter();
             unwritten = new int[0];
             drags = unwritten;
@@ -1051,32 +1039,32 @@ public final class SwivelBoard {
             drags = unwritten;
             costs = unwritten;
             goes = unwritten;
-            scanner.begin(length);
+            tokens.begin(length);
             readBoard();
-            for (int i = 0; i < MOST_BYTES && fault == 0 && scanner.kind != Scanner.END; i++) {
+            for (int i = 0; i < MOST_BYTES && fault == 0 && tokens.kind != Tokens.END; i++) {
                 readLine();
             }
         }
 
         private void readBoard() {
-            if (!scanner.isWord("board")) {
+            if (!tokens.isWord("board")) {
                 refuse(2);
                 return;
             }
-            scanner.step();
+            tokens.step();
             members = takeNumber(2, MOST_MEMBERS);
             weights = Lanes.ofBits((1 << members) - 1);
             endLine();
         }
 
         private void readLine() {
-            if (scanner.isWord("member")) {
+            if (tokens.isWord("member")) {
                 readMember();
-            } else if (scanner.isWord("drags")) {
+            } else if (tokens.isWord("drags")) {
                 drags = readLaw(LawWriter.DRAGS);
-            } else if (scanner.isWord("costs")) {
+            } else if (tokens.isWord("costs")) {
                 costs = readLaw(LawWriter.COSTS);
-            } else if (scanner.isWord("goes")) {
+            } else if (tokens.isWord("goes")) {
                 goes = readLaw(LawWriter.GOES);
             } else {
                 refuse(2);
@@ -1085,22 +1073,22 @@ public final class SwivelBoard {
         }
 
         private void readMember() {
-            scanner.step();
+            tokens.step();
             int m = takeNumber(0, members - 1);
-            for (int i = 0; i < MOST_BYTES && fault == 0 && scanner.kind == Scanner.WORD; i++) {
+            for (int i = 0; i < MOST_BYTES && fault == 0 && tokens.kind == Tokens.WORD; i++) {
                 readFlag(m);
             }
         }
 
         private void readFlag(int m) {
-            if (scanner.isWord("faces")) {
-                scanner.step();
+            if (tokens.isWord("faces")) {
+                tokens.step();
                 aims = Lanes.with(aims, m, takeNumber(0, members - 1));
-            } else if (scanner.isWord("weight")) {
-                scanner.step();
+            } else if (tokens.isWord("weight")) {
+                tokens.step();
                 weights = Lanes.with(weights, m, takeNumber(1, 9));
-            } else if (scanner.isWord("stuck")) {
-                scanner.step();
+            } else if (tokens.isWord("stuck")) {
+                tokens.step();
                 stuck |= 1 << m;
             } else {
                 refuse(2);
@@ -1108,13 +1096,13 @@ public final class SwivelBoard {
         }
 
         private int[] readLaw(int which) {
-            scanner.step();
+            tokens.step();
             takeSign(':');
             writer.begin(which);
             for (int i = 0; i < MOST_BYTES && fault == 0 && !lawEnds(); i++) {
-                int kind = writer.take(scanner);
+                int kind = writer.wanted ? writer.takeOperand(tokens) : writer.takeLink(tokens);
                 if (kind == 0) {
-                    scanner.step();
+                    tokens.step();
                 } else {
                     refuse(kind);
                 }
@@ -1123,7 +1111,7 @@ public final class SwivelBoard {
         }
 
         private boolean lawEnds() {
-            return writer.isWhole() && scanner.isSignOf(';');
+            return writer.isWhole() && tokens.isSignOf(';');
         }
 
         private void endLine() {
@@ -1137,8 +1125,8 @@ public final class SwivelBoard {
             if (fault != 0) {
                 return least;
             }
-            int v = scanner.value;
-            if (scanner.kind != Scanner.NUMBER) {
+            int v = tokens.value;
+            if (tokens.kind != Tokens.NUMBER) {
                 refuse(2);
                 return least;
             }
@@ -1146,7 +1134,7 @@ public final class SwivelBoard {
                 refuse(3);
                 return least;
             }
-            scanner.step();
+            tokens.step();
             return v;
         }
 
@@ -1154,8 +1142,8 @@ public final class SwivelBoard {
             if (fault != 0) {
                 return;
             }
-            if (scanner.isSignOf(sign)) {
-                scanner.step();
+            if (tokens.isSignOf(sign)) {
+                tokens.step();
             } else {
                 refuse(2);
             }
@@ -1163,8 +1151,8 @@ public final class SwivelBoard {
 
         /** What is no token at all stands nowhere, and its own kind is the least. */
         private void refuse(int kind) {
-            fault = scanner.kind == Scanner.BAD ? 1 : kind;
-            place = scanner.start;
+            fault = tokens.kind == Tokens.BAD ? 1 : kind;
+            place = tokens.start;
         }
     }
 
@@ -1763,7 +1751,7 @@ public final class SwivelBoard {
     }
 
     /** The looks that come by minutes; tail and round are kept till the board changes. */
-    private static final class Future {
+    private static final class Course {
         private static final int VOTES = 64;
         private static final int UNKNOWN = -1;
         /** Above thrice the looks of six members. */
@@ -1775,7 +1763,7 @@ public final class SwivelBoard {
         int tail;
         int round;
 
-        Future(State live) {
+        Course(State live) {
             this.live = live;
             settledAt = NONE;
             paces = new byte[MOST_MEMBERS * MOST_MEMBERS * VOTES];
@@ -1801,12 +1789,8 @@ public final class SwivelBoard {
                 fast = behindMinute(fast);
                 round++;
             }
-            findTail();
-        }
-
-        private void findTail() {
-            int slow = live.aims;
-            int fast = slow;
+            slow = live.aims;
+            fast = slow;
             for (int i = 0; i < round; i++) {
                 fast = behindMinute(fast);
             }
