@@ -184,6 +184,11 @@ public final class TurnsTest {
         SwivelBoard z = Due.of("board 5;member 3 faces 3 weight 3 stuck;member 0 stuck;");
         Due.is(25, "1, 2 and 4 face 0", z.helps(0, 0), 3);
         Due.is(25, "1, 2 and 4 face 0", z.helps(0, 1), 22);
+        // Ten against nine: 0 and 3, 1 and 2, 1 and 3, 2 and 3 have so many.
+        SwivelBoard w = Due.of("board 6;member 1 weight 5;member 2 weight 5;member 3 weight 9;member 4 stuck;"
+            + "member 5 faces 1 weight 9 stuck;");
+        Due.is(25, "two", w.helps(4, 0), 2);
+        Due.is(25, "the least set as bits", w.helps(4, 1), 6);
         Due.fails(25, "helps(5, 9)", Due.NO_ELEMENT, () -> z.helps(5, 9));
         Due.fails(25, "helps(0, 2)", Due.ARGUMENT, () -> z.helps(0, 2));
         Due.fails(25, "helps(0, -1)", Due.ARGUMENT, () -> z.helps(0, -1));
@@ -222,6 +227,9 @@ public final class TurnsTest {
         SwivelBoard y = Due.of("board 6;");
         Due.is(27, "three twos", y.knees(0), 3);
         Due.is(27, "six notches each", y.knees(1), 18);
+        for (int m = 0; m < 6; m++) {
+            Due.is(27, "the first of like ones", y.knees(10 + m), m % 2 == 0 ? 1 : 5);
+        }
         SwivelBoard z = Due.of("board 2;member 0 stuck;");
         Due.is(27, "none at all", z.knees(0), 0);
         Due.is(27, "for nothing", z.knees(1), 0);
