@@ -124,18 +124,18 @@ public final class SwivelBoard {
     // ---- deeds
 
     public int turn(int m, int notches) {
-        int why = live.swing(m, notches);
+        int why = live.turnBy(m, notches);
         return why == 0 ? notches * live.price(m) : -why;
     }
 
     public int weigh(int m, int weight) {
         int before = live.has(m) ? Lanes.at(live.weights, m) : 0;
-        int why = live.load(m, weight);
+        int why = live.giveWeight(m, weight);
         return why == 0 ? before : -why;
     }
 
     public int stick(int m) {
-        int why = live.clamp(m);
+        int why = live.toggleStuck(m);
         if (why != 0) {
             return -why;
         }
@@ -501,9 +501,9 @@ public final class SwivelBoard {
     private int enactDrawn(int sort, int m, int amount) {
         switch (sort) {
             case 0: return live.enact(NONE);
-            case 3: return live.load(m, amount);
-            case 4: return live.clamp(m);
-            default: return live.swing(m, amount);
+            case 3: return live.giveWeight(m, amount);
+            case 4: return live.toggleStuck(m);
+            default: return live.turnBy(m, amount);
         }
     }
 
@@ -1229,15 +1229,15 @@ public final class SwivelBoard {
         long votesIn(int look) {
             long votes = 0;
             int rest = look;
-            int load = weights;
+            int loads = weights;
             for (int m = 0; m < members; m++) {
                 int aim = rest & 15;
                 if (aim != 0) {
                     int to = m + aim < members ? m + aim : m + aim - members;
-                    votes += (long) (load & 15) << (to << 3);
+                    votes += (long) (loads & 15) << (to << 3);
                 }
                 rest >>>= 4;
-                load >>>= 4;
+                loads >>>= 4;
             }
             return votes;
         }
@@ -1346,8 +1346,8 @@ public final class SwivelBoard {
             stamp++;
         }
 
-        /** As load, clamp and enact: 0, or why it can't be. */
-        int swing(int m, int notches) {
+        /** As giveWeight, toggleStuck and enact: 0, or why it can't be. */
+        int turnBy(int m, int notches) {
             if (!has(m) || notches < 1 || notches >= members) {
                 return 1;
             }
@@ -1359,7 +1359,7 @@ public final class SwivelBoard {
             return 0;
         }
 
-        int load(int m, int weight) {
+        int giveWeight(int m, int weight) {
             if (!has(m) || weight < 1 || weight > 9) {
                 return 1;
             }
@@ -1368,7 +1368,7 @@ public final class SwivelBoard {
             return 0;
         }
 
-        int clamp(int m) {
+        int toggleStuck(int m) {
             if (!has(m)) {
                 return 1;
             }
@@ -1388,9 +1388,9 @@ public final class SwivelBoard {
                 return 0;
             }
             if (v < 100) {
-                return swing(v / 10, v % 10);
+                return turnBy(v / 10, v % 10);
             }
-            return v < 200 ? load((v - 100) / 10, v % 10) : clamp(v - 200);
+            return v < 200 ? giveWeight((v - 100) / 10, v % 10) : toggleStuck(v - 200);
         }
     }
 
@@ -1728,23 +1728,23 @@ public final class SwivelBoard {
             for (int i = 0; i < n && turns.freeMany > 0; i++) {
                 allChances *= turns.freeMany;
             }
-            share(0, turns.freeMany > 0 ? n : 0, live.aims, 1);
+            share(this, 0, turns.freeMany > 0 ? n : 0, live.aims, 1);
         }
 
         /** The order of turns changes nothing, so each way to share them out counts for all its orders at once. */
-        private void share(int f, int left, int look, int orders) {
-            if (f >= turns.freeMany || left == 0) {
-                int who = live.chairOf(look);
+        private static void share(Sights to, int f, int left, int look, int orders) {
+            if (f >= to.turns.freeMany || left == 0) {
+                int who = to.live.chairOf(look);
                 if (left == 0 && who != NONE) {
-                    chances[who] += orders;
+                    to.chances[who] += orders;
                 }
                 return;
             }
             int there = look;
             int choices = 1;
             for (int own = 0; own <= left; own++) {
-                share(f + 1, left - own, there, orders * choices);
-                there = Lanes.plus(there, turns.pullAt(f), live.members);
+                share(to, f + 1, left - own, there, orders * choices);
+                there = Lanes.plus(there, to.turns.pullAt(f), to.live.members);
                 choices = choices * (left - own) / (own + 1);
             }
         }
