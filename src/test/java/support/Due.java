@@ -11,6 +11,10 @@ final class Due {
 
     private Due() { }
 
+    static int checks() {
+        return checks;
+    }
+
     interface Call {
         long answer();
     }
