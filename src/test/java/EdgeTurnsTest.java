@@ -564,6 +564,9 @@ public final class EdgeTurnsTest {
             SwivelBoard x = new SwivelBoard();
             x.tray(0, 0, 2);
             Edge.is("ways(0)", x.ways(0), 1);
+            SwivelBoard y = new SwivelBoard();
+            Due.row(y, 0, 0, -1, -1);
+            Edge.is("ways(0) of any", y.ways(0), 4);
         });
     }
 
@@ -598,6 +601,10 @@ public final class EdgeTurnsTest {
                     x.vetoes(m);
                     Edge.is("knees", x.knees(1), twin.knees(1));
                     Edge.is("knees", x.knees(10 + i), twin.knees(10 + i));
+                    Edge.is("idle", x.idle(), 1);
+                    x.vetoes(m);
+                    Edge.is("looks", x.looks(), 27);
+                    Edge.is("power", x.power(i), twin.power(i));
                 }
             }
         });
