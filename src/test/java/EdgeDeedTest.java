@@ -284,6 +284,21 @@ public final class EdgeDeedTest {
                 Edge.unchanged("undo(1)", was[i], x);
             }
         });
+        Edge.of(13, "MINUTES and what comes behind them, of two to six", () -> {
+            for (int n = 2; n <= 6; n++) {
+                SwivelBoard x = Due.of("board " + n + ";member 1 weight 9 stuck;member 0 faces 1 weight 8;goes:1;");
+                String start = Due.view(x);
+                x.minutes(1);
+                String one = Due.view(x);
+                x.minutes(1);
+                x.weigh(0, 4);
+                x.turn(0, n - 1);
+                Edge.is("undo(3)", x.undo(3), 1);
+                Edge.unchanged("undo(3) of " + n, one, x);
+                Edge.is("undo(1)", x.undo(1), 0);
+                Edge.unchanged("undo(1) of " + n, start, x);
+            }
+        });
         Edge.of(13, "several at once", () -> {
             SwivelBoard x = Due.of(THREE);
             x.weigh(0, 2);

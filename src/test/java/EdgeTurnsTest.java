@@ -362,6 +362,17 @@ public final class EdgeTurnsTest {
             Edge.is("the last one, the most notches", y.motion(4), 55);
             Edge.is("not by itself", y.motion(5), -1);
         });
+        Edge.of(24, "NONE: none of all thirty, nor of fewer behind thirty", () -> {
+            // Nobody but 0 has votes to give that count, and 0 can't face itself.
+            SwivelBoard x = Due.of("board 6;member 0 faces 1 weight 9;");
+            Edge.is("motion(0)", x.motion(0), -1);
+            Edge.is("motion(2)", x.motion(2), 1);
+            for (int m = 0; m < 5; m++) {
+                x.stick(m);
+            }
+            Edge.is("5 alone is TURNED", x.motion(2), -1);
+            Edge.is("5 alone is TURNED", x.motion(0), -1);
+        });
         Edge.of(24, "by who is dragged", () -> {
             SwivelBoard x = Due.of("board 3;member 2 faces 2 weight 9;drags:who=0 and other=2;");
             Edge.is("0 by 2 turns 2 to 0", x.motion(0), 2);
